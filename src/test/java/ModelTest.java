@@ -39,7 +39,7 @@ public final class ModelTest {
     private void run(int run) {
         int questions = run % 4 == 0 ? 20 : 60;
         int ends = 1 + run % 3 * 4;
-        int valuesShare = 1 + run / 3 % 3 * 15;
+        int valuesShare = 5 + run / 3 % 3 * 30;
         for (int call = 0; call < CALLS; call++) {
             if (next(100) < questions) {
                 ask();
