@@ -11,6 +11,11 @@ final class Due {
         about = what;
     }
 
+    /** The section of the document and its words that the answers looked at from here on hold. */
+    static void sentence(String section, String words) {
+        about = section + ", \"" + words + "\"";
+    }
+
     static void is(String call, long got, long want) {
         looked++;
         if (got != want) {

@@ -19,6 +19,7 @@ public final class FaceTest {
         constructorIsTheOneOfTheDocument();
         publicMethodsAreThoseOfTheDocument();
         fieldsArePrivateAndOfAllowedTypes();
+        noCallThrows();
         Due.close();
     }
 
@@ -81,5 +82,44 @@ public final class FaceTest {
             Due.holds(field.getName() + ", if static, is a final int or long",
                     !constant || number && Modifier.isFinal(field.getModifiers()));
         }
+    }
+
+    /** LANGUAGE.md, rule 7. The objects go past their 512 calls: the answers are free then, but not the throwing. */
+    private static void noCallThrows() {
+        Due.about("LANGUAGE.md, rule 7");
+        DremelStore full = new DremelStore();
+        Stores.addValues(full, 60);
+        Stores.addEmptyRecords(full, 8);
+        askWithEveryNumber(new DremelStore());
+        askWithEveryNumber(Stores.sample());
+        askWithEveryNumber(full);
+        DremelStore x = new DremelStore();
+        for (int turn = 0; turn < 1000; turn++) {
+            x.value(turn);
+            x.group(true, turn);
+            x.begin(true, turn);
+            if (turn % 7 == 0) {
+                x.end();
+            }
+        }
+        Due.holds("1000 turns past every limit end", true);
+    }
+
+    private static void askWithEveryNumber(DremelStore x) {
+        for (int rec : Stores.NEVER_THERE) {
+            for (int group : Stores.NEVER_THERE) {
+                for (int place : Stores.NEVER_THERE) {
+                    x.valueAt(rec, group, place);
+                    x.valueAt(rec & 3, group & 3, place);
+                }
+                x.values(rec, group);
+                x.label(rec, group);
+                x.recordsWith(rec, group);
+            }
+            x.groups(rec);
+            x.hasNote(rec);
+            x.sumByTag(rec);
+        }
+        Due.holds("every question ends", true);
     }
 }
